@@ -19,6 +19,8 @@ public final class TwoMoons {
   private static final int MOST_COSTS = 9999;
   // The changes, as mend numbers them.
   private static final int UP = 0, FIRST = 1, HOURS = 2, OVER = 3;
+  // What the law is asked over, of a deed's hours.
+  private static final int BY_FIRST = 0, BY_LAST = 1, BY_EACH = 2, BY_MILDEST = 3;
 
   private final Sky sky;
   private final Reader reader;
@@ -212,7 +214,7 @@ public final class TwoMoons {
     if (!isCase(dv, hour) || c < 0 || c > 100) {
       return BAD;
     }
-    if (book.told(dv / 10, OVER) != 2) {
+    if (book.told(dv / 10, OVER) != BY_EACH) {
       return STATE;
     }
     court.open(dv / 10, dv % 10);
@@ -467,32 +469,26 @@ public final class TwoMoons {
       }
     }
 
-    /** What a moon's law answers; 0 without a text. */
-    int answer(int moon, int[] names, int[] values) {
-      if (!hasMoon(moon)) {
-        return 0;
-      }
-      Statute law = laws[moon];
-      return law == null ? 0 : law.answer(names, values);
+    /** The law of a moon; null without a text. */
+    Statute lawOf(int moon) {
+      return hasMoon(moon) ? laws[moon] : null;
     }
 
+    /** The state of an hour: the moons that are up, as bits. */
     int upIn(int valley, int hour) {
+      if (!hasValley(valley)) {
+        return 0;
+      }
       int bits = 0;
       for (int moon = 0; moon < moons; moon++) {
-        if (isUp(moon, valley, hour)) {
+        int spot = valley * MOONS + moon;
+        int round = rounds[moon];
+        int x = round > 0 ? Math.floorMod(hour - firsts[moon] - lates[spot], round) : 0;
+        if (x < ups[moon] - cuts[spot]) {
           bits |= 1 << moon;
         }
       }
       return bits;
-    }
-
-    boolean isUp(int moon, int valley, int hour) {
-      if (!hasMoon(moon) || !hasValley(valley) || rounds[moon] <= 0) {
-        return false;
-      }
-      int spot = valley * MOONS + moon;
-      int x = Math.floorMod(hour - firsts[moon] - lates[spot], rounds[moon]);
-      return x < ups[moon] - cuts[spot];
     }
 
     int hoursWith(int valley, int hour, int n, int bits) {
@@ -586,30 +582,31 @@ public final class TwoMoons {
         return 0;
       }
       for (int i = 0; i < steps && i < values.length; i++) {
-        values[i] = work(i, names, values);
+        int left = lefts[i];
+        int right = rights[i];
+        if (signs[i] == NUMBER) {
+          values[i] = left;
+        } else if (signs[i] == NAME) {
+          values[i] = left >= 0 && left < names.length ? names[left] : 0;
+        } else {
+          int a = left >= 0 && left < i ? values[left] : 0;
+          int b = right >= 0 && right < i ? values[right] : 0;
+          values[i] = joined(signs[i], a, b);
+        }
       }
+      return firstThatCounts(values);
+    }
+
+    private int firstThatCounts(int[] values) {
       for (int i = 0; i < lines; i++) {
-        if (wants[i] == NONE || at(values, wants[i]) != 0) {
-          return at(values, results[i]);
+        int want = wants[i];
+        int result = results[i];
+        boolean counts = want < 0 || want >= values.length || values[want] != 0;
+        if (counts && result >= 0 && result < values.length) {
+          return values[result];
         }
       }
       return 0;
-    }
-
-    private int work(int step, int[] names, int[] values) {
-      int left = lefts[step];
-      switch (signs[step]) {
-        case NUMBER:
-          return left;
-        case NAME:
-          return at(names, left);
-        case NEGATIVE:
-          return -at(values, left);
-        case '!':
-          return at(values, left) == 0 ? 1 : 0;
-        default:
-          return joined(signs[step], at(values, left), at(values, rights[step]));
-      }
     }
 
     private int joined(int sign, int a, int b) {
@@ -624,30 +621,23 @@ public final class TwoMoons {
           return b == 0 ? 0 : a / b;
         case '%':
           return b == 0 ? 0 : a % b;
-        default:
-          return holds(sign, a, b) ? 1 : 0;
-      }
-    }
-
-    private boolean holds(int sign, int a, int b) {
-      switch (sign) {
         case '|':
-          return a != 0 || b != 0;
+          return a != 0 || b != 0 ? 1 : 0;
         case '&':
-          return a != 0 && b != 0;
+          return a != 0 && b != 0 ? 1 : 0;
         case '<':
-          return a < b;
+          return a < b ? 1 : 0;
         case '=':
-          return a == b;
+          return a == b ? 1 : 0;
         case '>':
-          return a > b;
+          return a > b ? 1 : 0;
+        case '!':
+          return a == 0 ? 1 : 0;
+        case NEGATIVE:
+          return -a;
         default:
-          return false;
+          return 0;
       }
-    }
-
-    private int at(int[] row, int i) {
-      return i >= 0 && i < row.length ? row[i] : 0;
     }
   }
 
@@ -986,56 +976,33 @@ public final class TwoMoons {
       names[MOONS_NAME] = Integer.bitCount(state);
       int most = 0;
       for (int moon = 0; moon < MOONS; moon++) {
-        if ((state >> moon & 1) != 0) {
-          int costs = sky.answer(moon, names, values);
-          if (costs < 0) {
-            return NOT;
-          }
-          most = Math.max(most, Math.min(costs, MOST_COSTS));
+        Statute law = (state >> moon & 1) != 0 ? sky.lawOf(moon) : null;
+        int costs = law == null ? 0 : law.answer(names, values);
+        if (costs < 0) {
+          return NOT;
         }
+        most = Math.max(most, Math.min(costs, MOST_COSTS));
       }
       return most;
     }
 
-    boolean isLawful(int hour) {
-      return costBegun(hour) >= 0;
-    }
-
     /** Costs of the deed, begun in an hour; NOT if it may not be. */
     int costBegun(int hour) {
-      switch (over) {
-        case 0:
-          return costOf(0, hour);
-        case 1:
-          return costOf(length - 1, hour + length - 1);
-        case 2:
-          return costOfAll(hour);
-        default:
-          return costOfMildest(hour);
-      }
-    }
-
-    private int costOfAll(int hour) {
+      int first = over == BY_LAST ? length - 1 : 0;
+      int end = over == BY_FIRST ? 1 : length;
       int all = 0;
-      for (int n = 0; n < length; n++) {
-        int costs = costOf(n, hour + n);
-        if (costs < 0) {
+      int least = NOT;
+      for (int n = first; n < end; n++) {
+        int costs = costUnder(n, hour + n, upAt(hour + n));
+        if (costs < 0 && over != BY_MILDEST) {
           return NOT;
         }
         all += costs;
-      }
-      return all;
-    }
-
-    private int costOfMildest(int hour) {
-      int least = NOT;
-      for (int n = 0; n < length; n++) {
-        int costs = costOf(n, hour + n);
         if (costs >= 0 && (least < 0 || costs < least)) {
           least = costs;
         }
       }
-      return least;
+      return over == BY_MILDEST ? least : all;
     }
   }
 
@@ -1060,7 +1027,7 @@ public final class TwoMoons {
       int bits = 0;
       for (int deed = 0; deed < book.size(); deed++) {
         court.open(deed, valley);
-        if (court.isLawful(hour)) {
+        if (court.costBegun(hour) >= 0) {
           bits |= 1 << deed;
         }
       }
@@ -1068,11 +1035,11 @@ public final class TwoMoons {
     }
 
     int lawfulTill(int hour) {
-      if (!court.isLawful(hour)) {
+      if (court.costBegun(hour) < 0) {
         return STATE;
       }
       for (int i = 1; i <= SEARCHED; i++) {
-        if (!court.isLawful(hour + i)) {
+        if (court.costBegun(hour + i) < 0) {
           return hour + i;
         }
       }
@@ -1081,7 +1048,7 @@ public final class TwoMoons {
 
     int lawfulFrom(int hour, int hours) {
       for (int i = 0; i < hours; i++) {
-        if (court.isLawful(hour + i)) {
+        if (court.costBegun(hour + i) >= 0) {
           return hour + i;
         }
       }
@@ -1154,7 +1121,7 @@ public final class TwoMoons {
       court.open(one, valley);
       otherCourt.open(other, valley);
       for (int i = 0; i < SEARCHED; i++) {
-        if (court.isLawful(hour + i) && !otherCourt.isLawful(hour + i)) {
+        if (court.costBegun(hour + i) >= 0 && otherCourt.costBegun(hour + i) < 0) {
           return hour + i;
         }
       }
@@ -1227,7 +1194,7 @@ public final class TwoMoons {
       court.open(deed, valley);
       int found = 0;
       for (int i = 0; i < n; i++) {
-        if (court.isLawful(hour + i)) {
+        if (court.costBegun(hour + i) >= 0) {
           found++;
         }
       }
@@ -1285,7 +1252,7 @@ public final class TwoMoons {
     int firstBroken() {
       for (int vow = 0; vow < vows; vow++) {
         court.open(deeds[vow], valleys[vow]);
-        if (!court.isLawful(hours[vow])) {
+        if (court.costBegun(hours[vow]) < 0) {
           return vow;
         }
       }
@@ -1300,10 +1267,10 @@ public final class TwoMoons {
       for (int off = 0; off <= DATES_SEARCHED; off++) {
         int earlier = hours[vow] - off;
         int later = hours[vow] + off;
-        if (earlier >= 0 && court.isLawful(earlier)) {
+        if (earlier >= 0 && court.costBegun(earlier) >= 0) {
           return earlier;
         }
-        if (later <= LAST_HOUR && court.isLawful(later)) {
+        if (later <= LAST_HOUR && court.costBegun(later) >= 0) {
           return later;
         }
       }
@@ -1315,7 +1282,7 @@ public final class TwoMoons {
         return BAD;
       }
       court.open(deeds[vow], valleys[vow]);
-      if (!court.isLawful(hours[vow])) {
+      if (court.costBegun(hours[vow]) < 0) {
         return STATE;
       }
       int behind = hours[vow] + book.hoursOf(deeds[vow]);

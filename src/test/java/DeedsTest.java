@@ -22,6 +22,8 @@ public final class DeedsTest {
     elsewhere();
     elsewhereByWays();
     harm();
+    otherDeedOtherValley();
+    hoursByName();
     Check.end();
   }
 
@@ -437,5 +439,64 @@ public final class DeedsTest {
     y.deed(301, 20);
     Check.due("the 2000th is looked at", y.harm(100, 0, 998), 2997);
     Check.due("the 2001st is not", y.harm(100, 0, 997), NOT);
+  }
+
+  /** dv tells the deed and the valley: a deed of its own in a valley of its own. */
+  private static void otherDeedOtherValley() {
+    TwoMoons x = Check.oneMoon(10, 4, "k=2&v=1?h+1;k=3&v=1?-1;77");
+    x.valley();
+    x.valley();
+    x.hills(10, 500);
+    x.hills(20, 9);
+    x.deed(101, 0);
+    x.deed(202, 2);
+    x.deed(301, 0);
+    // In valley 1 the moon is up in 5 to 8; in valley 2 never.
+    Check.due("costs", x.costs(11, 1, 5), 6);
+    Check.due("costs in the other", x.costs(11, 1, 1), 0);
+    Check.due("may", x.may(11, 5), 6 + 7);
+    Check.due("may", x.may(11, 8), 9);
+    Check.due("may not", x.may(21, 5), -2);
+    Check.due("till", x.when(21, 9, 0), 15);
+    Check.due("from", x.when(21, 15, 1), 19);
+    Check.due("cheapest", x.cheapest(11, 4, 3, 0), 4);
+    Check.due("cheapest", x.cheapest(11, 4, 3, 1), 6);
+    Check.due("broken: last", x.broken(21, 5, 0), 9);
+    Check.due("broken: costs", x.broken(11, 6, 1), 7 + 8);
+    Check.due("broken: both its hours", x.broken(11, 6, 0), 7);
+    Check.due("elsewhere: its own", x.elsewhere(21, 5, 0), 1);
+    Check.due("elsewhere: its own hour", x.elsewhere(21, 5, 1), 9);
+    x.way(12, 2);
+    Check.due("elsewhere: the other", x.elsewhere(21, 5, 0), 2);
+    Check.due("elsewhere: the other's hour", x.elsewhere(21, 5, 1), 7);
+    Check.due("harm: the third may not", x.harm(102, 1, 0), 5);
+    Check.due("harm: the third not where the first may", x.harm(2, 1, 9), 15);
+    Check.due("harm: not there", x.harm(102, 2, 0), NOT);
+    x.mend(1, 3, 0);
+    x.mend(2, 3, 2);
+    Check.due("odds", x.odds(21, 5, 40), 400000);
+    Check.due("odds in the other", x.odds(20, 5, 40), 1000000);
+    Check.due("odds: over of the deed", x.odds(11, 5, 40), STATE);
+    x.mend(2, 2, 3);
+    Check.due("odds: hours of the deed", x.odds(21, 5, 40), 64000);
+  }
+
+  /** Each hour of a deed is judged by its own hour of the day. */
+  private static void hoursByName() {
+    TwoMoons x = Check.oneMoon(2, 2, "h>21?h;h<2?h;-1");
+    x.deed(303, 2);
+    Check.due("22, 23, 0", x.may(0, 22), 45);
+    Check.due("23, 0, 1", x.may(0, 23), 24);
+    Check.due("0, 1, 2", x.may(0, 24), -2);
+    x.mend(0, 3, 3);
+    Check.due("21, 22, 23", x.may(0, 21), 22);
+    Check.due("1, 2, 3", x.may(0, 25), 1);
+    x.mend(0, 3, 1);
+    Check.due("20, 21, 22", x.may(0, 20), 22);
+    Check.due("the last may not", x.may(0, 0), -2);
+    x.mend(0, 3, 2);
+    Check.due("odds of 23, 0, 1", x.odds(0, 23, 10), 1000000);
+    Check.due("odds of 24, 25, 26", x.odds(0, 24, 10), 100000);
+    Check.due("odds of 20, 21, 22", x.odds(0, 20, 10), 10000);
   }
 }

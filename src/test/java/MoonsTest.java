@@ -102,6 +102,9 @@ public final class MoonsTest {
     Check.due("no such valley", x.hills(20, 1), BAD);
     Check.due("no such moon", x.hills(12, 1), BAD);
     Check.due("vm below 0", x.hills(-1, 1), BAD);
+    Check.due("vm -10", x.hills(-10, 1), BAD);
+    Check.due("valley 9", x.hills(90, 1), BAD);
+    Check.due("moon 9", x.hills(9, 1), BAD);
     Check.due("bad ones changed nothing", x.hills(10, 201), 201);
     Check.due("the other moon's hills", x.hills(11, 100), 0);
     Check.due("the other valley's hills", x.hills(0, 0), 0);
@@ -130,6 +133,10 @@ public final class MoonsTest {
     Check.due("no such valley", x.way(3, 5), BAD);
     Check.due("no such valley", x.way(30, 5), BAD);
     Check.due("ab below 0", x.way(-1, 5), BAD);
+    Check.due("no such valleys", x.way(34, 5), BAD);
+    Check.due("valley 9", x.way(9, 5), BAD);
+    Check.due("valley 9", x.way(90, 5), BAD);
+    Check.due("ab 100", x.way(100, 5), BAD);
     Check.due("hours above 99", x.way(1, 100), BAD);
     Check.due("hours below 0", x.way(1, -1), BAD);
     Check.due("as it was", x.way(2, 5), 5);
@@ -164,6 +171,7 @@ public final class MoonsTest {
     Check.due("first the last hour", x.mend(0, 1, 9), 0);
     Check.due("first as the round", x.mend(0, 1, 10), BAD);
     Check.due("first below 0", x.mend(0, 1, -1), BAD);
+    Check.due("first the first hour", x.mend(0, 1, 0), 9);
     Check.due("no hours", x.mend(0, 2, 0), BAD);
     Check.due("49 hours", x.mend(0, 2, 49), BAD);
     Check.due("one hour", x.mend(0, 2, 1), 5);
@@ -176,7 +184,7 @@ public final class MoonsTest {
     Check.due("no such deed", x.mend(-1, 3, 1), BAD);
     Check.due("no such thing", x.mend(0, 4, 1), BAD);
     Check.due("no such thing", x.mend(0, -1, 1), BAD);
-    Check.due("five changes", x.count(5), 5);
+    Check.due("six changes", x.count(5), 6);
   }
 
   private static void feed() {

@@ -15,6 +15,7 @@ public final class PromisesTest {
     yearOfAll();
     undo();
     undoForty();
+    undoMany();
     undoAll();
     Check.end();
   }
@@ -57,6 +58,9 @@ public final class PromisesTest {
     Check.due("what was undone, too", x.judge(), 4);
     Check.law(x, 0, "0");
     Check.due("another law", x.judge(), NOT);
+    Check.law(x, 0, "-1");
+    x.hills(0, 500);
+    Check.due("the very first", x.judge(), 0);
   }
 
   private static void dated() {
@@ -221,6 +225,24 @@ public final class PromisesTest {
       Check.due("hours", x.of(0, 1), 43 - left);
     }
     Check.due("no more", x.redo(), STATE);
+  }
+
+  /** What is forgotten is the first change alone; the others still are of what they were. */
+  private static void undoMany() {
+    TwoMoons x = new TwoMoons();
+    x.moon(99, 0);
+    x.deed(301, 0);
+    x.deed(301, 0);
+    for (int i = 0; i < 44; i++) {
+      int number = i % 4 == 3 ? 1 : 0;
+      Check.due("change " + i, x.mend(number, i % 4 == 0 ? 1 : 2, 2 + i) >= 0);
+    }
+    for (int i = 43; i >= 4; i--) {
+      Check.due("undone " + i, x.undo(), i - 4);
+    }
+    Check.due("first", x.mend(0, 1, 0), 2);
+    Check.due("hours of 0", x.of(0, 1), 4);
+    Check.due("hours of 1", x.of(1, 1), 5);
   }
 
   private static void undoAll() {
