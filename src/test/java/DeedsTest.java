@@ -17,6 +17,7 @@ public final class DeedsTest {
     till();
     from();
     cheapest();
+    cheapestOfOthers();
     broken();
     brokenFar();
     elsewhere();
@@ -305,6 +306,17 @@ public final class DeedsTest {
     Check.due("hour behind the last", x.cheapest(0, 1000000, 5, 0), VOID);
   }
 
+  private static void cheapestOfOthers() {
+    TwoMoons x = Check.oneMoon(10, 10, "k=9?h%5;v=2?-1;4");
+    x.valley();
+    x.valley();
+    x.deed(301, 0);
+    x.deed(901, 0);
+    Check.due("the other deed, the first of like ones", x.cheapest(10, 1, 24, 0), 5);
+    Check.due("its costs", x.cheapest(10, 1, 24, 1), 0);
+    Check.due("the first deed in another valley", x.cheapest(2, 1, 24, 0), -1);
+  }
+
   private static void rests(TwoMoons x, String name, int hour, int last, int costs, int rests) {
     Check.due(name + ": last", x.broken(0, hour, 0), last);
     Check.due(name + ": costs", x.broken(0, hour, 1), costs);
@@ -329,6 +341,9 @@ public final class DeedsTest {
     Check.law(x, 0, "h<6?-1;h");
     x.mend(0, 2, 3);
     rests(x, "costs of all", 0, 8, 21, 6);
+    Check.law(x, 0, "h");
+    rests(x, "from hour 0 without a rest", 0, 2, 3, 0);
+    Check.law(x, 0, "h<6?-1;h");
     rests(x, "by the day", 23, 31, 23 + 6 + 7, 6);
     Check.due("what 3", x.broken(0, 0, 3), VOID);
     Check.due("what below 0", x.broken(0, 0, -1), VOID);
@@ -369,7 +384,7 @@ public final class DeedsTest {
     x.way(23, 6);
     int[][] dues = {
         {0, 0, 1, 5}, {0, 12, 2, 30}, {0, 40, 0, 50}, {0, 38, 0, 50}, {0, 37, 2, 49}, {2, 18, 2, 30},
-        {3, 24, 2, 30}, {3, 25, 3, 30}, {4, 7, 4, 7}, {0, 999999, 0, 999999}
+        {3, 24, 2, 30}, {3, 25, 3, 30}, {4, 7, 4, 7}, {4, 0, 4, 0}, {0, 999999, 0, 999999}
     };
     for (int[] due : dues) {
       String name = "from " + due[0] + " in " + due[1];
@@ -407,6 +422,8 @@ public final class DeedsTest {
     x.way(43, 0);
     Check.due("straight again", x.elsewhere(0, 7, 1), 7 + 98);
     Check.due("back is no longer", x.elsewhere(4, 7, 1), 7);
+    x.way(40, 1);
+    Check.due("a way of one hour", x.elsewhere(0, 7, 1), 8);
     TwoMoons y = rare("v=1&m=3?0;-1");
     y.valley();
     y.way(1, 50);
@@ -434,6 +451,10 @@ public final class DeedsTest {
     Check.due("no such valley", x.harm(100, 1, 0), BAD);
     Check.due("hour below 0", x.harm(100, 0, -1), BAD);
     Check.due("hour behind the last", x.harm(100, 0, 1000000), BAD);
+    Check.law(x, 0, "w=1|h<7?-1;0");
+    x.mend(0, 0, 10);
+    Check.due("where the one may", x.harm(100, 0, 0), 7);
+    Check.due("where the one may", x.harm(100, 0, 24), 31);
     TwoMoons y = rare("m=3&w=1?-1;0");
     y.deed(301, 10);
     y.deed(301, 20);

@@ -227,22 +227,22 @@ public final class PromisesTest {
     Check.due("no more", x.redo(), STATE);
   }
 
-  /** What is forgotten is the first change alone; the others still are of what they were. */
+  /** What is forgotten are the first changes alone; the others still are of what they were. */
   private static void undoMany() {
     TwoMoons x = new TwoMoons();
     x.moon(99, 0);
     x.deed(301, 0);
     x.deed(301, 0);
-    for (int i = 0; i < 44; i++) {
+    for (int i = 0; i < 43; i++) {
       int number = i % 4 == 3 ? 1 : 0;
       Check.due("change " + i, x.mend(number, i % 4 == 0 ? 1 : 2, 2 + i) >= 0);
     }
-    for (int i = 43; i >= 4; i--) {
-      Check.due("undone " + i, x.undo(), i - 4);
+    for (int i = 42; i >= 3; i--) {
+      Check.due("undone " + i, x.undo(), i - 3);
     }
     Check.due("first", x.mend(0, 1, 0), 2);
     Check.due("hours of 0", x.of(0, 1), 4);
-    Check.due("hours of 1", x.of(1, 1), 5);
+    Check.due("hours of 1", x.of(1, 1), 1);
   }
 
   private static void undoAll() {
