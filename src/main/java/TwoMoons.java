@@ -480,7 +480,7 @@ public final class TwoMoons {
         return 0;
       }
       int bits = 0;
-      for (int moon = 0; moon < moons; moon++) {
+      for (int moon = 0; moon < moons && moon < MOONS; moon++) {
         int spot = valley * MOONS + moon;
         int round = rounds[moon];
         int x = round > 0 ? Math.floorMod(hour - firsts[moon] - lates[spot], round) : 0;
@@ -503,7 +503,7 @@ public final class TwoMoons {
 
     int roundOfAll() {
       int all = 1;
-      for (int moon = 0; moon < moons; moon++) {
+      for (int moon = 0; moon < moons && moon < MOONS; moon++) {
         int round = roundOf(moon);
         int shared = greatestShared(all, round);
         all = shared > 0 ? all / shared * round : all;
@@ -581,7 +581,7 @@ public final class TwoMoons {
       if (names == null || values == null) {
         return 0;
       }
-      for (int i = 0; i < steps && i < values.length; i++) {
+      for (int i = 0; i < steps && i < TAPE && i < values.length; i++) {
         int left = lefts[i];
         int right = rights[i];
         if (signs[i] == NUMBER) {
@@ -598,7 +598,7 @@ public final class TwoMoons {
     }
 
     private int firstThatCounts(int[] values) {
-      for (int i = 0; i < lines; i++) {
+      for (int i = 0; i < lines && i < TAPE; i++) {
         int want = wants[i];
         int result = results[i];
         boolean counts = want < 0 || want >= values.length || values[want] != 0;
@@ -1250,7 +1250,7 @@ public final class TwoMoons {
     }
 
     int firstBroken() {
-      for (int vow = 0; vow < vows; vow++) {
+      for (int vow = 0; vow < vows && vow < PROMISES; vow++) {
         court.open(deeds[vow], valleys[vow]);
         if (court.costBegun(hours[vow]) < 0) {
           return vow;
@@ -1382,7 +1382,7 @@ public final class TwoMoons {
     }
 
     int takeBack() {
-      if (done <= 0) {
+      if (done <= 0 || done > CHANGES) {
         return STATE;
       }
       done--;
