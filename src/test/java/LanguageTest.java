@@ -24,17 +24,22 @@ public final class LanguageTest {
   private LanguageTest() {
   }
 
-  public static void main(String[] args) throws IOException {
+  public static void main(String[] args) throws IOException, IllegalAccessException {
     face();
+    constants();
     source();
     classes();
     Check.end();
   }
 
-  private static void face() throws IOException {
+  private static String faceOfTheDocument() throws IOException {
     String doc = Files.readString(DOC);
     String block = doc.substring(doc.indexOf("```java") + 7);
-    block = block.substring(0, block.indexOf("```"));
+    return block.substring(0, block.indexOf("```"));
+  }
+
+  private static void face() throws IOException {
+    String block = faceOfTheDocument();
     Set<String> due = new TreeSet<>();
     Matcher method = Pattern.compile("public (int|long) (\\w+)\\(([^)]*)\\);").matcher(block);
     while (method.find()) {
@@ -64,6 +69,25 @@ public final class LanguageTest {
     Check.due("one constructor", made.length == 1 && made[0].getParameterCount() == 0
         && Modifier.isPublic(made[0].getModifiers()));
     Check.due("public and final", TwoMoons.class.getModifiers(), Modifier.PUBLIC | Modifier.FINAL);
+  }
+
+  /** The constants are the document's, by name and value, and no other field is seen from outside. */
+  private static void constants() throws IOException, IllegalAccessException {
+    Matcher line = Pattern.compile("public static final int ([^;]*);").matcher(faceOfTheDocument());
+    Check.due("the document tells constants", line.find());
+    Set<String> due = new TreeSet<>(List.of(line.group(1).split(", ")));
+    Set<String> told = new TreeSet<>();
+    for (Field field : TwoMoons.class.getDeclaredFields()) {
+      int modifiers = field.getModifiers();
+      if (Modifier.isPublic(modifiers)) {
+        boolean isConstant = Modifier.isStatic(modifiers) && Modifier.isFinal(modifiers);
+        Check.due(field + " is a constant int", isConstant && field.getType() == int.class);
+        told.add(field.getName() + (isConstant ? " = " + field.get(null) : ""));
+      } else {
+        Check.due(field + " is private", Modifier.isPrivate(modifiers));
+      }
+    }
+    Check.due("constants " + told + " as the document's " + due, told.equals(due) && due.size() == 5);
   }
 
   private static String types(String parameters) {
